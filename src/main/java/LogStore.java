@@ -168,8 +168,8 @@ public final class LogStore {
     }
 
     // From the end on back, since a later record of a key outdoes an earlier one.
-    private int lastRecord(int k, int from, int end) {
-        for (int i = end - 1; i >= from; i--) {
+    private int lastRecord(int k, int end) {
+        for (int i = end - 1; i >= 0; i--) {
             if (recordKey[i] == k) {
                 return i;
             }
@@ -178,12 +178,12 @@ public final class LogStore {
     }
 
     private boolean isThere(int k, int end) {
-        int last = lastRecord(k, 0, end);
+        int last = lastRecord(k, end);
         return last != NONE && recordIsPut[last];
     }
 
     private int valueOf(int k, int end) {
-        int last = lastRecord(k, 0, end);
+        int last = lastRecord(k, end);
         return last != NONE && recordIsPut[last] ? recordValue[last] : 0;
     }
 
@@ -213,10 +213,11 @@ public final class LogStore {
         return to;
     }
 
-    // A removal is only needed over a put that stays before it.
+    // A removal is only needed over a put that stays before it. The look back from end halts at i at
+    // the latest, so it meets no record that has been moved already.
     private boolean isNeeded(int i, int end, int kept) {
         int k = recordKey[i];
-        if (lastRecord(k, i, end) != i) {
+        if (lastRecord(k, end) != i) {
             return false;
         }
         return recordIsPut[i] || isThere(k, kept);

@@ -19,6 +19,7 @@ public final class PromisesTest {
         syncInTransaction();
         clean();
         cleanInTransaction();
+        cleanTidiesUp();
         crash();
         crashInTransaction();
         has();
@@ -335,6 +336,27 @@ public final class PromisesTest {
         due("count() after abort", x.count(), 3);
         x.crash();
         due("has(3) after crash", x.has(3), false);
+    }
+
+    // No promised answer shows that clean() tidies up at all. This class refuses only when its row is
+    // full (README.md), so a row that is tidied up takes records far beyond the 512th call.
+    private static void cleanTidiesUp() {
+        promise = "promise 8 (tidies up)";
+        LogStore x = new LogStore();
+        for (int i = 0; i < 1000; i++) {
+            due("put number " + i, x.put(i % 16, i), true);
+            if (i % 3 == 0) {
+                due("remove after put number " + i, x.remove(i % 16), true);
+            }
+            if (i % 20 == 0) {
+                x.sync();
+            }
+            if (i % 50 == 49) {
+                x.clean();
+            }
+        }
+        due("get(6)", x.get(6), 998);
+        due("has(7)", x.has(7), false);
     }
 
     private static void crash() {
